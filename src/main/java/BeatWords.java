@@ -13,6 +13,7 @@ public final class BeatWords {
     private static final int MOST_SHOWN = 180;
     private static final int MOST_MARKED = 6;
     private static final int SHEETS = 4;
+    private static final int LEAST_INT = -2147483648;
 
     private static final int TWINS = 0, ONSET = 1, CODA = 2, EDGE = 3;
     private static final int SORT = 4, FROM = 5, REST = 6, MAIN = 7, WINDOW = 8;
@@ -282,15 +283,15 @@ public final class BeatWords {
     public int get(int s, int i) {
         Sheet sheet = sheetAt(s);
         if (sheet == null) {
-            return Integer.MIN_VALUE;
+            return LEAST_INT;
         }
         if (sheet.lost) {
             finding(NULL);
-            return Integer.MIN_VALUE;
+            return LEAST_INT;
         }
         if (!sheet.has(i, 1)) {
             finding(INDEX);
-            return Integer.MIN_VALUE;
+            return LEAST_INT;
         }
         return sheet.item(i);
     }
@@ -364,7 +365,7 @@ public final class BeatWords {
         return h;
     }
 
-    // ---- what the calls are made of; each of these asks for refresh() ahead of it where it looks at beats
+    // ---- what the calls are made of: these look at words and beats as the latest refresh() left them
 
     private static int at(int[] row, int i) {
         return row != null && i >= 0 && i < row.length ? row[i] : 0;
@@ -413,6 +414,7 @@ public final class BeatWords {
         cut.make(bytes, length, ways);
         cut.lookUp(lexicon, bytes);
         now.make(cut, ways);
+        now.hear(cut, at(ways, WINDOW));
         now.listClashes(cut, at(ways, WINDOW));
         show();
     }
@@ -469,6 +471,7 @@ public final class BeatWords {
                 set(trialWays, k, footWay(number, k));
             }
             trial.make(cut, trialWays);
+            trial.hear(cut, at(ways, WINDOW));
             int like = trial.likeTold(cut, told);
             if (like > nearestCount) {
                 nearestCount = like;
@@ -854,7 +857,6 @@ public final class BeatWords {
                 }
                 giveBeats(cut, word, to, at(ways, MAIN));
             }
-            hear(cut, at(ways, WINDOW));
         }
 
         private void layForward(Cut cut, int[] ways, int first, int to) {
@@ -1055,7 +1057,7 @@ public final class BeatWords {
             return NONE;
         }
 
-        /** Apart from make(), as trials of other WAYS have no use for it. */
+        /** Apart from hear(), as trials of other WAYS have no use for it. */
         private void listClashes(Cut cut, int window) {
             clashes = 0;
             heardClashes = 0;

@@ -248,6 +248,8 @@ public final class BeatsTest {
         // what has moved clashes again where it comes to
         hear(shaped("L LLL", 0, 0, 1, 0), 3, "2201", "2002", "1 1 2 1");
         hear(shaped("L LLLLL", 0, 0, 1, 0), 3, "220101", "200002", "2 0 3 0");
+        hear(shaped("L LLLLLL", 0, 0, 0, 0), 2, "2201010", "2002000", "2 0 3 0");
+        hear(shaped("L LLL L", 0, 0, 1, 0), 1, "22012", "20022", "1 1 2 1");
     }
 
     private static void heardBadly() {
@@ -293,11 +295,12 @@ public final class BeatsTest {
         due.is("copyHeard() of none", x.copyHeard(), 0);
         // TOLD of SYLLABLES that are not there by these WAYS is left
         x = Runs.typed("baibai");
-        Runs.tell(x, "1111");
+        Runs.tell(x, "1121");
+        x.count(6);
         x.way(Runs.TWINS, 1);
         due.is("copyHeard() of two", x.copyHeard(), 1);
         x.way(Runs.TWINS, 0);
-        due.is("told", Runs.told(x), "2011");
+        due.is("told", Runs.told(x), "2021");
     }
 
     private static void near() {
