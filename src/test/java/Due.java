@@ -32,6 +32,10 @@ final class Due {
         return wrong;
     }
 
+    int held() {
+        return held;
+    }
+
     void end() {
         System.out.println(held + " answers held, " + wrong + " not as due");
         if (wrong != 0) {

@@ -43,7 +43,7 @@ public final class OracleTest {
         while (calls < 512 && due.wrong() == 0) {
             if (random.nextInt(60) == 0) {
                 String text = random.nextInt(3) == 0 ? randomText() : TEXTS[random.nextInt(TEXTS.length)];
-                if (calls + text.length() + 1 > 512) {
+                if (calls + text.length() + 2 > 512) {
                     break;
                 }
                 calls += 1 + text.length();

@@ -107,4 +107,67 @@ final class Runs {
             x.put(s, 0, i, text.charAt(i));
         }
     }
+
+    /** Objects that are all alike, each used for fewer calls than the document promises anything of. */
+    private static final class Alike {
+        private final Edges.Maker maker;
+        private BeatWords one;
+        private int calls;
+
+        Alike(Edges.Maker maker) {
+            this.maker = maker;
+            one = maker.make();
+        }
+
+        BeatWords next() {
+            if (calls == 200) {
+                one = maker.make();
+                calls = 0;
+            }
+            calls++;
+            return one;
+        }
+    }
+
+    /** What the document tells of digest(), by the calls that it names. */
+    static long digestByCalls(Edges.Maker maker) {
+        Alike x = new Alike(maker);
+        int words = x.next().count(1);
+        int syllables = x.next().count(2);
+        int clashes = x.next().heard(2);
+        int bytes = x.next().text(BeatWords.NONE);
+        long h = 17;
+        for (int what = 0; what <= 7; what++) {
+            h = 31 * h + x.next().count(what);
+        }
+        h = 31 * h + x.next().flaw();
+        for (int k = 0; k < words; k++) {
+            for (int what = 0; what <= 5; what++) {
+                h = 31 * h + x.next().word(k, what);
+            }
+            h = 31 * h + x.next().marked(k);
+        }
+        for (int k = 0; k < syllables; k++) {
+            for (int what = 0; what <= 7; what++) {
+                h = 31 * h + x.next().syllable(k, what);
+            }
+        }
+        for (int k = 0; k < clashes; k++) {
+            h = 31 * h + x.next().clash(k);
+        }
+        for (int what = 0; what <= 3; what++) {
+            h = 31 * h + x.next().heard(what);
+        }
+        h = 31 * h + x.next().near();
+        for (int what = 0; what <= 4; what++) {
+            h = 31 * h + x.next().nearest(what);
+        }
+        for (int what = 0; what <= 2; what++) {
+            h = 31 * h + x.next().share(what);
+        }
+        for (int n = BeatWords.NONE; n < bytes; n++) {
+            h = 31 * h + x.next().text(n);
+        }
+        return h;
+    }
 }

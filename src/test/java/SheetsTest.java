@@ -294,57 +294,31 @@ public final class SheetsTest {
         due.is("counts", Runs.counts(x), "0 0 0 0 0 1 0 0 4");
     }
 
-    /** What the document tells of digest(), by the calls that it names. */
-    private static long digestByCalls(BeatWords x) {
-        long h = 17;
-        for (int what = 0; what <= 7; what++) {
-            h = 31 * h + x.count(what);
-        }
-        h = 31 * h + x.flaw();
-        for (int k = 0; k < x.count(1); k++) {
-            for (int what = 0; what <= 5; what++) {
-                h = 31 * h + x.word(k, what);
-            }
-            h = 31 * h + x.marked(k);
-        }
-        for (int k = 0; k < x.count(2); k++) {
-            for (int what = 0; what <= 7; what++) {
-                h = 31 * h + x.syllable(k, what);
-            }
-        }
-        for (int k = 0; k < x.heard(2); k++) {
-            h = 31 * h + x.clash(k);
-        }
-        for (int what = 0; what <= 3; what++) {
-            h = 31 * h + x.heard(what);
-        }
-        h = 31 * h + x.near();
-        for (int what = 0; what <= 4; what++) {
-            h = 31 * h + x.nearest(what);
-        }
-        for (int what = 0; what <= 2; what++) {
-            h = 31 * h + x.share(what);
-        }
-        for (int n = -1; n < x.text(-1); n++) {
-            h = 31 * h + x.text(n);
-        }
-        return h;
-    }
-
-    private static void digestOf(String text, int window) {
+    private static BeatWords digested(String text, int window) {
         BeatWords x = Runs.typed(text);
         x.way(Runs.WINDOW, window);
         x.way(Runs.REST, 1);
         Runs.tell(x, "0201020102");
         x.mark(0, 0);
         x.mark(1, 0);
+        return x;
+    }
+
+    private static BeatWords learned(String text, int window) {
+        BeatWords x = digested(text, window);
+        x.learn();
+        return x;
+    }
+
+    private static void digestOf(String text, int window) {
+        BeatWords x = digested(text, window);
         long first = x.digest();
-        due.is("digest() of <" + text + "> by " + window, first, digestByCalls(x));
+        due.is("digest() of <" + text + "> by " + window, first, Runs.digestByCalls(() -> digested(text, window)));
         due.is("digest() again", x.digest(), first);
         x.sheet(0, 0, -1);
         due.is("digest() behind a FINDING", x.digest(), first);
         x.learn();
-        due.is("digest() behind learn()", x.digest(), digestByCalls(x));
+        due.is("digest() behind learn()", x.digest(), Runs.digestByCalls(() -> learned(text, window)));
     }
 
     private static void digest() {
