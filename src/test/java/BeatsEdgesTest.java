@@ -442,8 +442,8 @@ public final class BeatsEdgesTest {
     }
 
     static void p13_theFirstTwoComeFirst() {
-        // were the last two first, 2101 would be left of 2111
-        heard(by("HHHH", 1, 0, 0, 0, 1), "2111", "2001", "2 0 3 0");
+        // were the last two first, 0102 would be left
+        heard(by("HHHH", 1, 0, 0, 1, 1), "1112", "0002", "3 0 3 0");
     }
 
     static void p13_ofTwoMainsTheFirstMovesAhead() {
@@ -471,9 +471,40 @@ public final class BeatsEdgesTest {
         heard(x, "01022001", "02002001", "1 0 1 0");
     }
 
+    static void p13_itMovesToTheFirstSyllableOfItsWord() {
+        heard(by("LLL L", 0, 0, 1, 1, 1), "1022", "2002", "1 0 1 0");
+    }
+
+    static void p13_itMovesToTheLastSyllableOfItsWord() {
+        heard(by("L LLL", 0, 0, 1, 0, 1), "2201", "2002", "1 0 1 0");
+    }
+
     static void p13_aOneOfAnotherWordIsNotTaken() {
         heard(by("LLLL L L", 0, 0, 0, 0, 1), "201022", "201022", "0 1 1 1");
         heard(by("L L LLLL", 0, 0, 0, 0, 1), "222010", "220020", "1 1 2 1");
+    }
+
+    static void p13_aOneAtTheEndOfTheWordAheadIsNotTaken() {
+        BeatWords x = Runs.typed("bababa dada ga");
+        x.way(Runs.REST, 1);
+        x.way(Runs.WINDOW, 1);
+        x.mark(1, 1);
+        heard(x, "201022", "201022", "0 1 1 1");
+    }
+
+    static void p13_aOneAtTheBeginningOfTheWordBehindIsNotTaken() {
+        heard(by("L LL LLL", 0, 0, 1, 1, 1), "220102", "220102", "0 1 1 1");
+    }
+
+    static void p13_askedAgainBehindAChange() {
+        BeatWords x = by("H H H", 1, 0, 0, 0, 1);
+        due.is("heard() by WINDOW 1", Runs.heardCounts(x), "0 2 2 2");
+        x.way(Runs.CODA, 1);
+        due.is("heard() behind another way", Runs.heardCounts(x), "0 2 2 2");
+        x.way(Runs.WINDOW, 0);
+        due.is("heard() by WINDOW 0", Runs.heardCounts(x), "0 0 0 0");
+        x.way(Runs.WINDOW, 1);
+        due.is("heard() by WINDOW 1 again", Runs.heardCounts(x), "0 2 2 2");
     }
 
     static void p13_withoutOneTheyAreStuck() {
@@ -558,8 +589,12 @@ public final class BeatsEdgesTest {
 
     static void p14_itChangesNoOther() {
         BeatWords x = Runs.typed("bababa");
-        x.tell(1, 2);
-        due.is("told", Runs.told(x), "020");
+        Runs.tell(x, "121");
+        due.is("told", Runs.told(x), "121");
+        x.tell(1, 0);
+        due.is("told behind tell(1, 0)", Runs.told(x), "101");
+        x.tell(2, 2);
+        due.is("told behind tell(2, 2)", Runs.told(x), "102");
         due.is("HEARD", Runs.heard(x), "200");
         due.is("BEATS", Runs.beats(x), "200");
     }

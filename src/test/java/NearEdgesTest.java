@@ -164,6 +164,56 @@ public final class NearEdgesTest {
         due.is("nearest() unmarked", Runs.nearest(x), "2 0 1 1 3");
     }
 
+    /** What is HEARD of it is another by each of the 36 ways of SORT, FROM, REST, MAIN. */
+    private static final String UNLIKE = "LLLHLL LLL LLHL";
+
+    private static BeatWords unlike(int number) {
+        BeatWords x = Runs.typed(Runs.shaped(UNLIKE));
+        x.way(Runs.SORT, number / 12);
+        x.way(Runs.FROM, number / 6 % 2);
+        x.way(Runs.REST, number / 3 % 2);
+        x.way(Runs.MAIN, number % 3);
+        x.copyHeard();
+        return x;
+    }
+
+    private static String told(int number) {
+        return number / 12 + " " + number / 6 % 2 + " " + number / 3 % 2 + " " + number % 3 + " 13";
+    }
+
+    static void p17_eachOfAllWaysCanBeIt() {
+        for (int number = 0; number < 36; number++) {
+            BeatWords x = unlike(number);
+            x.way(Runs.SORT, (number / 12 + 1) % 3);
+            x.way(Runs.MAIN, (number + 1) % 3);
+            due.is("nearest() of way " + number, Runs.nearest(x), told(number));
+        }
+    }
+
+    static void p17_askedAgainBehindAChange() {
+        BeatWords x = Runs.typed("bababa");
+        due.is("nearest()", Runs.nearest(x), "0 0 0 0 2");
+        x.tell(2, 2);
+        due.is("nearest() behind tell()", Runs.nearest(x), "2 1 0 0 3");
+        x.copyHeard();
+        due.is("nearest() behind copyHeard()", Runs.nearest(x), "0 0 0 0 3");
+        x.way(Runs.FROM, 1);
+        x.copyHeard();
+        due.is("nearest() behind another copyHeard()", Runs.nearest(x), "0 1 0 0 3");
+        x.way(Runs.EDGE, 2);
+        due.is("nearest() behind way()", Runs.nearest(x), "2 0 0 0 3");
+        x.mark(0, 2);
+        due.is("nearest() behind mark()", Runs.nearest(x), "2 0 0 0 1");
+        x.unmark(0);
+        due.is("nearest() behind unmark()", Runs.nearest(x), "2 0 0 0 3");
+        x.learn();
+        due.is("nearest() behind learn()", Runs.nearest(x), "2 0 0 0 3");
+        x.type('n');
+        due.is("nearest() behind type()", Runs.nearest(x), "0 0 0 0 2");
+        x.wipe();
+        due.is("nearest() behind wipe()", Runs.nearest(x), "0 0 0 0 0");
+    }
+
     static void p17_ofSixtySyllables() {
         BeatWords x = Runs.typed(Edges.sixtySyllables());
         x.way(Runs.SORT, 2);
@@ -210,6 +260,18 @@ public final class NearEdgesTest {
         Runs.tell(x, "2000");
         due.is("learn()", x.learn(), 4);
         due.is("WAYS", ways(x), "122200003");
+    }
+
+    static void p18_eachOfAllWaysCanBeLearned() {
+        for (int number = 0; number < 36; number++) {
+            BeatWords x = unlike(number);
+            for (int k = Runs.SORT; k <= Runs.MAIN; k++) {
+                x.way(k, number % 2);
+            }
+            due.is("learn() of way " + number, x.learn(), 13);
+            due.is("near() of way " + number, x.near(), 13);
+            due.is("WAYS of way " + number, ways(x).substring(4, 8), told(number).replace(" ", "").substring(0, 4));
+        }
     }
 
     static void p18_toldAndLexiconAreLeft() {

@@ -235,6 +235,54 @@ public final class TextEdgesTest {
         due.is("digest()", x.digest(), new BeatWords().digest());
     }
 
+    /** All that is told of a text, where another text had been asked about before. */
+    private static void behind(String before, String text) {
+        String want = Edges.all(asked("", text));
+        due.is("all of <" + text + "> behind <" + before + ">", Edges.all(asked(before, text)), want);
+    }
+
+    private static BeatWords asked(String before, String text) {
+        BeatWords x = Runs.typed(before);
+        x.way(Runs.SORT, 1);
+        x.way(Runs.CODA, 2);
+        x.way(Runs.REST, 1);
+        x.way(Runs.WINDOW, 3);
+        x.copyHeard();
+        x.digest();
+        x.wipe();
+        Runs.type(x, text);
+        return x;
+    }
+
+    static void p03_aShorterTextHasNothingOfALongerOne() {
+        String[] longer = {Edges.sixtySyllables(), Edges.thirtyWords(), Edges.times("a", 60), "ant an aa i u",
+            "aa", "ai", "a a a a", "bababa baabaa baantbaant"};
+        String[] shorter = {"", "a", "ba", "a a", "a ", "b", "an", "baba", "a ba"};
+        for (String before : longer) {
+            for (String text : shorter) {
+                behind(before, text);
+            }
+        }
+    }
+
+    static void p03_whatIsNoMoreThereIsBad() {
+        BeatWords x = Runs.typed("baba baba baba");
+        x.way(Runs.WINDOW, 3);
+        x.mark(2, 1);
+        x.digest();
+        Runs.retype(x, "baba");
+        for (int what = 0; what <= 7; what++) {
+            due.is("word(1, " + what + ")", x.word(1, what), -2);
+            due.is("syllable(2, " + what + ")", x.syllable(2, what), -2);
+        }
+        due.is("mark(1, 0)", x.mark(1, 0), -2);
+        due.is("unmark(1)", x.unmark(1), -2);
+        due.is("marked(1)", x.marked(1), -2);
+        due.is("tell(2, 1)", x.tell(2, 1), -2);
+        due.is("clash(0)", x.clash(0), -2);
+        due.is("text(6)", x.text(6), -2);
+    }
+
     static void p03_itLeavesWaysLexiconSheetsAndFinding() {
         BeatWords x = Edges.rich(3);
         x.wipe();
@@ -375,6 +423,19 @@ public final class TextEdgesTest {
         x.read(0);
         x.way(Runs.TWINS, 0);
         due.is("told", Runs.told(x), "000");
+    }
+
+    static void p04_aShorterTextHasNothingOfALongerOne() {
+        BeatWords x = Runs.typed("aaa aaa");
+        x.way(Runs.WINDOW, 3);
+        x.copyHeard();
+        x.digest();
+        Runs.sheetOf(x, 0, "a");
+        x.read(0);
+        BeatWords y = Runs.typed("a");
+        y.way(Runs.WINDOW, 3);
+        Runs.sheetOf(y, 0, "a");
+        due.is("all", Edges.all(x), Edges.all(y));
     }
 
     static void p04_theSheetStaysAsItWas() {

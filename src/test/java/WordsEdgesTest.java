@@ -125,6 +125,15 @@ public final class WordsEdgesTest {
         due.is("word(0, 3)", x.word(0, 3), 0);
     }
 
+    static void p07_inLexiconWithASyllableFarBehindItsLast() {
+        BeatWords x = Runs.typed("baibaibai");
+        x.mark(0, 5);
+        x.way(Runs.TWINS, 1);
+        due.is("word(0, 1)", x.word(0, 1), 3);
+        due.is("word(0, 5)", x.word(0, 5), 0);
+        due.is("BEATS", Runs.beats(x), "200");
+    }
+
     static void p07_feetAreAtLeastOne() {
         for (int sort = 0; sort <= 2; sort++) {
             for (int from = 0; from <= 1; from++) {
