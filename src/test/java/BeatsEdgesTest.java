@@ -642,6 +642,16 @@ public final class BeatsEdgesTest {
         due.is("told", Runs.told(x), "20");
     }
 
+    static void p15_toldOutOfSightAreLeft() {
+        BeatWords x = Runs.typed("baibai");
+        Runs.tell(x, "1121");
+        due.is("HEARD of four", Runs.heard(x), "2010");
+        x.way(Runs.TWINS, 1);
+        due.is("copyHeard() of two", x.copyHeard(), 1);
+        x.way(Runs.TWINS, 0);
+        due.is("told of four", Runs.told(x), "2021");
+    }
+
     static void p15_aSecondTimeItChangesNothing() {
         BeatWords x = Edges.rich();
         x.copyHeard();

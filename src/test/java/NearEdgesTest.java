@@ -190,6 +190,38 @@ public final class NearEdgesTest {
         }
     }
 
+    /** The way with most NEAR, and how near, as way() and near() tell them of each of the 36. */
+    private static String mostOfAll(BeatWords x) {
+        int most = -1;
+        String best = "";
+        for (int number = 0; number < 36; number++) {
+            int[] ways = {number / 12, number / 6 % 2, number / 3 % 2, number % 3};
+            for (int i = 0; i < 4; i++) {
+                x.way(Runs.SORT + i, ways[i]);
+            }
+            int near = x.near();
+            if (near > most) {
+                most = near;
+                best = ways[0] + " " + ways[1] + " " + ways[2] + " " + ways[3] + " " + near;
+            }
+        }
+        return best;
+    }
+
+    static void p17_noWayButThe36() {
+        for (String shape : new String[] {"L", "HL", "LHL", "LLHL", "LHHLH"}) {
+            int all = (int) Math.pow(3, shape.length());
+            for (int number = 0; number < all; number++) {
+                StringBuilder beats = new StringBuilder();
+                for (int k = 0, rest = number; k < shape.length(); k++, rest /= 3) {
+                    beats.append(rest % 3);
+                }
+                BeatWords x = told(shape, beats.toString());
+                due.is("nearest() of " + shape + " told " + beats, Runs.nearest(x), mostOfAll(x));
+            }
+        }
+    }
+
     static void p17_askedAgainBehindAChange() {
         BeatWords x = Runs.typed("bababa");
         due.is("nearest()", Runs.nearest(x), "0 0 0 0 2");
